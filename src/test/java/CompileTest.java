@@ -66,6 +66,7 @@ public final class CompileTest {
         compiles(LEFT_RECURSIVE, "A=BBBA", "A=", "B=C", "C=D", "D=");
         compiles(LEFT_RECURSIVE, "A=a", "A=CBa", "B=b", "B=CA", "C=c", "C=");
         compiles(LEFT_RECURSIVE, "A=a", "A=AA");
+        compiles(LEFT_RECURSIVE, "A=BCa", "A=a", "B=Ab", "B=", "C=c");
     }
 
     private static void firstFaultIsAnswered() {

@@ -33,6 +33,11 @@ public final class GrammarTest {
         Check.add(x, "A=B", "B=d");
         Check.same("compile()", x.compile(), AdaptiveLlStar.COMPILE_OK);
         Check.accepts(x, "d", "A10-1^-1 B10-1^0 d0-1^1");
+        x.clearGrammar();
+        Check.add(x, "A=", "A=");
+        Check.same("compile()", x.compile(), AdaptiveLlStar.COMPILE_OK);
+        Check.accepts(x, "", "A1!0-0^-1");
+        Check.rejects(x, "d", 0);
     }
 
     private static void clearGrammarKeepsInputAndResult() {
