@@ -64,7 +64,6 @@ public final class ConstructionTest {
         nodeLimit(Integer.MAX_VALUE, 64);
     }
 
-    // A tree for "A=BB..B" and "B=" has a node more than the alternative has symbols.
     private static void nodeLimit(int given, int due) {
         AdaptiveLlStar x = new AdaptiveLlStar(12, given);
         Check.same("code with " + due + " nodes", codeOfTree(x, due), AdaptiveLlStar.PARSE_ACCEPT);
@@ -74,12 +73,7 @@ public final class ConstructionTest {
     }
 
     private static int codeOfTree(AdaptiveLlStar x, int nodes) {
-        int left = nodes - 1;
-        int doubles = left > 40 ? left - 40 : 0;
-        int singles = left - 2 * doubles;
-        x.clearGrammar();
-        Check.add(x, "A=" + "C".repeat(doubles) + "B".repeat(singles), "B=", "C=B");
-        Check.same("compile()", x.compile(), AdaptiveLlStar.COMPILE_OK);
+        Check.compileTreeOf(x, nodes);
         return x.parse();
     }
 

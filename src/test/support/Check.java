@@ -1,3 +1,5 @@
+import java.util.TreeSet;
+
 /**
  * What the tests share: a short notation for grammars, inputs and trees, and
  * the count of wrong answers.
@@ -7,8 +9,24 @@
  */
 final class Check {
     private static int wrong = 0;
+    private static String about = "";
 
     private Check() {
+    }
+
+    /**
+     * Runs the test of one sentence of the document. What it finds is told with
+     * the place and the words of the sentence, and a test that breaks off does
+     * not keep the tests after it from being run.
+     */
+    static void sentence(String place, String words, Runnable test) {
+        about = place + ", \"" + words + "\": ";
+        try {
+            test.run();
+        } catch (RuntimeException | StackOverflowError fault) {
+            tell("broke off with " + fault);
+        }
+        about = "";
     }
 
     static void same(String what, long got, long due) {
@@ -31,7 +49,7 @@ final class Check {
 
     static void tell(String fault) {
         wrong++;
-        System.out.println(fault);
+        System.out.println(about + fault);
     }
 
     /** Ends the program, with exit code 1 if an answer was wrong. */
@@ -118,6 +136,42 @@ final class Check {
         return text.toString();
     }
 
+    /** Ints below least and above most: the nearest, the farthest, and some that look right in their low bits. */
+    static int[] outside(int least, int most) {
+        TreeSet<Integer> found = new TreeSet<>();
+        for (int i = 1; i <= 300; i++) {
+            found.add(least - i);
+            found.add(most + i);
+        }
+        for (int bit = 3; bit < 32; bit++) {
+            for (int i = -1; i <= 24; i++) {
+                found.add((1 << bit) + i);
+                found.add(i - (1 << bit));
+            }
+        }
+        return found.stream().mapToInt(i -> i).filter(i -> i < least || i > most).toArray();
+    }
+
+    /** How many tokens the input takes when it is empty. */
+    static int room(AdaptiveLlStar x) {
+        x.clearInput();
+        int taken = 0;
+        while (taken < 100 && x.token(0)) {
+            taken++;
+        }
+        return taken;
+    }
+
+    /** Gives a grammar whose only tree for the empty input has so many nodes, 1 to 65. */
+    static void compileTreeOf(AdaptiveLlStar x, int nodes) {
+        int below = nodes - 1;
+        int doubles = below > 40 ? below - 40 : 0;
+        int singles = below - 2 * doubles;
+        x.clearGrammar();
+        add(x, "A=" + "C".repeat(doubles) + "B".repeat(singles), "B=", "C=B");
+        same("compile()", x.compile(), AdaptiveLlStar.COMPILE_OK);
+    }
+
     static final int[] FAR = {
         -1, -2, -64, 64, 65, 1000, 1 << 16, 1 << 30, Integer.MAX_VALUE, Integer.MIN_VALUE, Integer.MIN_VALUE + 1
     };
@@ -132,7 +186,7 @@ final class Check {
         }
     }
 
-    private static void nothingAt(AdaptiveLlStar x, int node) {
+    static void nothingAt(AdaptiveLlStar x, int node) {
         same("nodeSymbol(" + node + ")", x.nodeSymbol(node), -1);
         same("nodeAlt(" + node + ")", x.nodeAlt(node), -1);
         same("nodeParent(" + node + ")", x.nodeParent(node), -1);
