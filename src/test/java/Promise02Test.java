@@ -88,12 +88,11 @@ public final class Promise02Test {
     }
 
     private static void withoutAlternatives() {
-        AdaptiveLlStar x = new AdaptiveLlStar(12, 64);
-        x.clearGrammar();
-        States.sameLook("clearGrammar() on a fresh one", x, new AdaptiveLlStar(12, 64));
-        States.unchangedIn(new String[] {"fresh", "smallest", "cleared"}, "clearGrammar()", one -> {
-            one.clearGrammar();
-            one.clearGrammar();
+        String[] without = {"fresh", "smallest", "cleared"};
+        States.unchangedIn(without, "clearGrammar()", x -> x.clearGrammar());
+        States.unchangedIn(without, "clearGrammar() twice", x -> {
+            x.clearGrammar();
+            x.clearGrammar();
         });
         AdaptiveLlStar y = States.make("cleared");
         y.clearGrammar();

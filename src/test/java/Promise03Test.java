@@ -85,8 +85,8 @@ public final class Promise03Test {
     }
 
     private static void fullChangesNothing() {
-        States.unchangedIn(new String[] {"full", "full and edited"}, "beginAlt when there are 16",
-                Promise03Test::beginAll);
+        States.unchangedIn(new String[] {"full", "full and edited", "alternatives full"},
+                "beginAlt when there are 16", Promise03Test::beginAll);
         AdaptiveLlStar x = Check.grammar(sixteen());
         beginAll(x);
         Check.same("addTerminal(1) to the current one", x.addTerminal(1), true);

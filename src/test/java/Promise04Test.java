@@ -1,7 +1,7 @@
 /** Promise 4, sentence by sentence: addTerminal. */
 public final class Promise04Test {
     private static final String[] WITHOUT_CURRENT = {"fresh", "smallest", "cleared"};
-    private static final String[] FULL = {"full", "full and edited"};
+    private static final String[] FULL = {"full", "full and edited", "symbols full"};
 
     public static void main(String[] args) {
         sentence("no current alternative -> false", Promise04Test::noCurrent);

@@ -1,7 +1,7 @@
 /** Promise 5, sentence by sentence: addRule. */
 public final class Promise05Test {
     private static final String[] WITHOUT_CURRENT = {"fresh", "smallest", "cleared"};
-    private static final String[] FULL = {"full", "full and edited"};
+    private static final String[] FULL = {"full", "full and edited", "symbols full"};
 
     public static void main(String[] args) {
         sentence("no current alternative -> false", Promise05Test::noCurrent);

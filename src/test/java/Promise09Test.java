@@ -6,7 +6,8 @@ public final class Promise09Test {
     private static final int NOT_COMPILED = AdaptiveLlStar.PARSE_NOT_COMPILED;
     private static final String[] UNCOMPILED = {"fresh", "smallest", "begun", "faulty", "edited", "cleared",
         "full and edited"};
-    private static final String[] COMPILED = {"compiled", "accepted", "rejected", "too big", "full"};
+    private static final String[] COMPILED = {"compiled", "accepted", "rejected", "too big", "full", "alternatives full",
+        "symbols full", "input full"};
 
     public static void main(String[] args) {
         sentence("never changes the alternatives, the current alternative, the compiled flag or the input",
@@ -52,16 +53,15 @@ public final class Promise09Test {
 
     private static void keepsGrammarAndInput() {
         for (String state : COMPILED) {
-            AdaptiveLlStar once = States.make(state);
-            AdaptiveLlStar often = States.make(state);
-            int code = once.parse();
-            for (int turn = 0; turn < 4; turn++) {
-                Check.same("parse() of the " + state + " one", often.parse(), code);
-            }
-            States.sameLook("four times parse() on the " + state + " one", often, once);
             AdaptiveLlStar x = States.make(state);
-            x.parse();
-            Check.same("input of the " + state + " one", States.inputOf(x), States.inputOf(States.make(state)));
+            int code = x.parse();
+            Check.same("parse() is not refused", code == NOT_COMPILED, false);
+            Check.same("parse() again on the " + state + " one", x.parse(), code);
+            States.sameGrammarAndInput("parse() on the " + state + " one", () -> {
+                AdaptiveLlStar one = States.make(state);
+                one.parse();
+                return one;
+            }, () -> States.make(state));
         }
         keepsGrammarAndInput(ACCEPT, "A=a");
         keepsGrammarAndInput(REJECT, "A=d");
@@ -327,6 +327,7 @@ public final class Promise09Test {
             case "smallest":
                 return new AdaptiveLlStar(1, 8);
             case "rejected":
+            case "input full":
                 return new AdaptiveLlStar(3, 20);
             case "too big":
                 return new AdaptiveLlStar(5, 8);

@@ -451,6 +451,12 @@ public final class TermsTest {
             x.addRule(0);
             x.token(0);
         });
+        States.unchangedIn(new String[] {"alternatives full"}, "beginAlt(0)", x -> x.beginAlt(0));
+        States.unchangedIn(new String[] {"symbols full"}, "addTerminal(0) and addRule(0)", x -> {
+            x.addTerminal(0);
+            x.addRule(0);
+        });
+        States.unchangedIn(new String[] {"input full"}, "token(0)", x -> x.token(0));
         States.unchangedIn(new String[] {"fresh", "cleared"}, "all calls that need a grammar", x -> {
             x.addTerminal(0);
             x.addRule(0);

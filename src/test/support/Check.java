@@ -8,7 +8,10 @@ import java.util.TreeSet;
  * (a is 0): "A=aBb" is an alternative of rule 0, "B=" an empty one of rule 1.
  */
 final class Check {
+    private static final int MOST_TOLD = 20;
+
     private static int wrong = 0;
+    private static int told = 0;
     private static String about = "";
 
     private Check() {
@@ -21,12 +24,14 @@ final class Check {
      */
     static void sentence(String place, String words, Runnable test) {
         about = place + ", \"" + words + "\": ";
+        told = 0;
         try {
             test.run();
         } catch (RuntimeException | StackOverflowError fault) {
             tell("broke off with " + fault);
         }
         about = "";
+        told = 0;
     }
 
     static void same(String what, long got, long due) {
@@ -49,7 +54,11 @@ final class Check {
 
     static void tell(String fault) {
         wrong++;
-        System.out.println(about + fault);
+        told++;
+        // One fault can make thousands of answers wrong; the first ones show it.
+        if (told <= MOST_TOLD) {
+            System.out.println(about + fault);
+        }
     }
 
     /** Ends the program, with exit code 1 if an answer was wrong. */

@@ -2,13 +2,14 @@ import java.util.ArrayList;
 import java.util.LinkedHashMap;
 import java.util.List;
 import java.util.Map;
+import java.util.function.BiConsumer;
 import java.util.function.Consumer;
 import java.util.function.Supplier;
 
 /**
  * Objects in the states that the document tells apart, and a look at all that
  * can be seen of one. As a look spoils the object, each is made anew, and a
- * call is judged by a look at one object with it and one without it.
+ * call is judged by looks at an object with it and at one without it.
  */
 final class States {
     private static final Map<String, Supplier<AdaptiveLlStar>> ALL = new LinkedHashMap<>();
@@ -27,6 +28,9 @@ final class States {
         ALL.put("cleared", States::cleared);
         ALL.put("full", States::full);
         ALL.put("full and edited", States::fullAndEdited);
+        ALL.put("alternatives full", States::alternativesFull);
+        ALL.put("symbols full", States::symbolsFull);
+        ALL.put("input full", States::inputFull);
     }
 
     private States() {
@@ -93,6 +97,25 @@ final class States {
         return x;
     }
 
+    private static AdaptiveLlStar alternativesFull() {
+        AdaptiveLlStar x = Check.compiled("A=B", "A=aB", "A=bB", "A=cB", "B=", "B=a", "B=b", "B=c", "C=", "D=", "E=",
+                "F=", "G=", "H=", "H=a", "B=ab");
+        Check.same("parse()", Check.parse(x, "ab"), AdaptiveLlStar.PARSE_ACCEPT);
+        return x;
+    }
+
+    private static AdaptiveLlStar symbolsFull() {
+        AdaptiveLlStar x = Check.compiled("A=bB", "B=", "C=" + "a".repeat(40), "A=aBacBc");
+        Check.same("parse()", Check.parse(x, "aacb"), AdaptiveLlStar.PARSE_REJECT);
+        return x;
+    }
+
+    private static AdaptiveLlStar inputFull() {
+        AdaptiveLlStar x = Check.compiledWithin(3, 20, "A=aA", "A=b", "A=ba");
+        Check.same("parse()", Check.parse(x, "aba"), AdaptiveLlStar.PARSE_ACCEPT);
+        return x;
+    }
+
     static String[] fullGrammar() {
         return new String[] {"A=BCDA", "A=", "B=a", "B=b", "B=c", "C=b", "C=aE", "C=", "D=c", "D=abc", "E=a", "E=F",
             "F=b", "G=aaaaaaaaaaaaaaaa", "H=bbbbbbbbbbb", "H=cccc"};
@@ -115,9 +138,12 @@ final class States {
 
     static void unchangedIn(String[] states, String call, Consumer<AdaptiveLlStar> made) {
         for (String state : states) {
-            AdaptiveLlStar x = ALL.get(state).get();
-            made.accept(x);
-            sameLook(call + " on the " + state + " one", x, ALL.get(state).get());
+            Supplier<AdaptiveLlStar> without = ALL.get(state);
+            sameLooks(call + " on the " + state + " one", () -> {
+                AdaptiveLlStar x = without.get();
+                made.accept(x);
+                return x;
+            }, without);
         }
     }
 
@@ -129,48 +155,85 @@ final class States {
         return new ArrayList<>(ALL.keySet());
     }
 
-    static void sameLook(String what, AdaptiveLlStar x, AdaptiveLlStar due) {
-        List<String> seen = look(x);
-        List<String> expected = look(due);
+    /** Each look begins with another part of the state, as it may spoil the other parts. */
+    static void sameLooks(String what, Supplier<AdaptiveLlStar> made, Supplier<AdaptiveLlStar> due) {
+        sameLook(what, States::lookAtResult, made, due);
+        sameGrammarAndInput(what, made, due);
+    }
+
+    /** The same but for the compiled flag and the result. */
+    static void sameGrammarAndInput(String what, Supplier<AdaptiveLlStar> made, Supplier<AdaptiveLlStar> due) {
+        sameLook(what, States::lookAtCurrent, made, due);
+        sameLook(what, States::lookAtAlternatives, made, due);
+        sameLook(what, States::lookAtInput, made, due);
+        sameLook(what, States::lookAtRoom, made, due);
+    }
+
+    private static void sameLook(String what, BiConsumer<AdaptiveLlStar, List<String>> look,
+            Supplier<AdaptiveLlStar> made, Supplier<AdaptiveLlStar> due) {
+        List<String> seen = new ArrayList<>();
+        List<String> expected = new ArrayList<>();
+        look.accept(made.get(), seen);
+        look.accept(due.get(), expected);
         for (int i = 0; i < expected.size(); i++) {
             if (!seen.get(i).equals(expected.get(i))) {
-                Check.same("look after " + what, seen.get(i), expected.get(i));
+                Check.same("a look after " + what, seen.get(i), expected.get(i));
                 return;
             }
         }
     }
 
-    private static List<String> look(AdaptiveLlStar x) {
-        List<String> seen = new ArrayList<>();
+    private static void lookAtResult(AdaptiveLlStar x, List<String> seen) {
         seen.add("getters: " + getters(x));
         seen.add("parse() before compile(): " + x.parse() + " " + getters(x));
-        seen.add("compile(): " + x.compile());
-        seen.add("parse(): " + x.parse() + " " + getters(x));
+        seen.add("compile(): " + x.compile() + " " + getters(x));
+        seen.add("parse() after it: " + x.parse() + " " + getters(x));
+    }
+
+    private static void lookAtCurrent(AdaptiveLlStar x, List<String> seen) {
+        seen.add("addTerminal(1): " + x.addTerminal(1));
+        seen.add("addRule(0): " + x.addRule(0));
+        lookAtGrammar(x, "the grammar with two symbols more", seen);
+        lookAtAlternatives(x, seen);
+    }
+
+    private static void lookAtAlternatives(AdaptiveLlStar x, List<String> seen) {
+        lookAtGrammar(x, "the grammar", seen);
+        // Makes every rule defined and productive, so that more of a faulty grammar is seen.
+        for (int rule = 0; rule < 8; rule++) {
+            seen.add("beginAlt(" + rule + "): " + x.beginAlt(rule) + " addTerminal(2): " + x.addTerminal(2));
+        }
+        lookAtGrammar(x, "the grammar with all rules", seen);
+    }
+
+    private static void lookAtInput(AdaptiveLlStar x, List<String> seen) {
+        seen.add("input: " + inputOf(x));
         int room = 0;
         while (room < 20 && x.token(0)) {
             room++;
         }
         seen.add("tokens taken: " + room);
         seen.add("parse() of the full input: " + x.parse() + " " + getters(x));
-        lookAtGrammar(x, "the grammar", seen);
-        seen.add("addTerminal(1): " + x.addTerminal(1));
-        lookAtGrammar(x, "the grammar with a symbol more", seen);
-        // Makes every rule defined and productive, so that more of a faulty grammar is seen.
-        for (int rule = 0; rule < 8; rule++) {
-            seen.add("beginAlt(" + rule + "): " + x.beginAlt(rule) + " addTerminal(2): " + x.addTerminal(2));
-        }
-        lookAtGrammar(x, "the grammar with all rules", seen);
-        int symbols = 0;
-        while (symbols < 100 && x.addTerminal(3)) {
-            symbols++;
-        }
-        seen.add("symbols taken: " + symbols);
+        seen.add("tokens taken by an empty one: " + Check.room(x));
+    }
+
+    private static void lookAtRoom(AdaptiveLlStar x, List<String> seen) {
+        seen.add("symbols taken: " + takenSymbols(x));
+        seen.add("beginAlt(4): " + x.beginAlt(4));
+        seen.add("symbols taken: " + takenSymbols(x));
         int alts = 0;
         while (alts < 100 && x.beginAlt(4)) {
             alts++;
         }
         seen.add("alternatives taken: " + alts);
-        return seen;
+    }
+
+    private static int takenSymbols(AdaptiveLlStar x) {
+        int symbols = 0;
+        while (symbols < 100 && x.addTerminal(3)) {
+            symbols++;
+        }
+        return symbols;
     }
 
     private static void lookAtGrammar(AdaptiveLlStar x, String what, List<String> seen) {
@@ -180,7 +243,9 @@ final class States {
             for (int i = 0; i < tokens.length(); i++) {
                 x.token(tokens.charAt(i) - 'a');
             }
-            seen.add(what + ", parse() of '" + tokens + "': " + x.parse() + " " + getters(x));
+            int code = x.parse();
+            boolean isRefused = code == AdaptiveLlStar.PARSE_NOT_COMPILED;
+            seen.add(what + ", parse() of '" + tokens + "': " + code + " " + (isRefused ? "" : getters(x)));
         }
     }
 
