@@ -6,8 +6,8 @@ public final class Promise09Test {
     private static final int NOT_COMPILED = AdaptiveLlStar.PARSE_NOT_COMPILED;
     private static final String[] UNCOMPILED = {"fresh", "smallest", "begun", "faulty", "edited", "cleared",
         "full and edited"};
-    private static final String[] COMPILED = {"compiled", "accepted", "rejected", "too big", "full", "alternatives full",
-        "symbols full", "input full"};
+    private static final String[] COMPILED = {"compiled", "accepted", "rejected", "too big", "full",
+        "alternatives full", "symbols full", "input full"};
 
     public static void main(String[] args) {
         sentence("never changes the alternatives, the current alternative, the compiled flag or the input",
@@ -34,7 +34,8 @@ public final class Promise09Test {
         sentence("if the first derivation has more than nodeLimit nodes, `PARSE_TOO_BIG`",
                 Promise09Test::emptyInputTooBig);
         sentence("otherwise it is `PARSE_REJECT` with error position 0", Promise09Test::emptyInputRejected);
-        sentence("whatever parses, inputs, grammar edits or recompilations came before", Promise09Test::pastIsForgotten);
+        sentence("whatever parses, inputs, grammar edits or recompilations came before",
+                Promise09Test::pastIsForgotten);
         sentence("The answer and the whole result depend only on the constructor arguments, the current alternatives",
                 Promise09Test::orderOfAlternatives);
         sentence("`errorPosition()`, `nodeCount()` and every node getter at every int argument answer the same",
@@ -195,7 +196,8 @@ public final class Promise09Test {
             AdaptiveLlStar x = new AdaptiveLlStar(12, limit);
             for (int nodes = limit - 2; nodes <= limit + 1 && nodes <= 65; nodes++) {
                 Check.compileTreeOf(x, nodes);
-                Check.same("parse() of " + nodes + " nodes within " + limit, x.parse(), nodes > limit ? TOO_BIG : ACCEPT);
+                int due = nodes > limit ? TOO_BIG : ACCEPT;
+                Check.same("parse() of " + nodes + " nodes within " + limit, x.parse(), due);
                 Check.same("nodeCount()", x.nodeCount(), nodes > limit ? 0 : nodes);
             }
         }

@@ -32,7 +32,9 @@ public final class RunsTest {
 
     public static void main(String[] args) {
         for (int i = 0; i < RUNS; i++) {
-            new RunsTest(-2 + MADE_UP.pick(17), MADE_UP.pick(2) == 0 ? -2 + MADE_UP.pick(20) : 4 * MADE_UP.pick(18)).run();
+            int tokenLimit = -2 + MADE_UP.pick(17);
+            int nodeLimit = MADE_UP.pick(2) == 0 ? -2 + MADE_UP.pick(20) : 4 * MADE_UP.pick(18);
+            new RunsTest(tokenLimit, nodeLimit).run();
         }
         for (int code = 0; code < 4; code++) {
             Check.same("parse() often answers " + code, PARSE_CODES[code] >= 400, true);
