@@ -13,10 +13,12 @@ public final class TermsTest {
     }
 
     private static void grammarTerms() {
+        sentence("3", "An alternative belongs to one rule", TermsTest::oneRule);
         sentence("3 to 5", "is a sequence of 0 or more symbols, each a terminal or a rule", TermsTest::anyLength);
         sentence("3", "numbered 1, 2, 3, .. in the order of the `beginAlt` calls that created them since the last"
                 + " `clearGrammar` (or construction)", TermsTest::numbers);
         sentence("6", "A rule is DEFINED when it has at least one alternative.", TermsTest::defined);
+        sentence("6", "(always over the current alternatives)", TermsTest::overCurrentAlternatives);
         sentence("6", "one of its alternatives consists only of nullable rules (an empty alternative qualifies)",
                 TermsTest::nullable);
         sentence("6", "Terminals are never nullable.", TermsTest::terminalsAreNotNullable);
@@ -31,7 +33,9 @@ public final class TermsTest {
     }
 
     private static void treeTerms() {
+        sentence("7 and 9", "token i (0 <= i < n) is the i-th one fed (counting from 0)", TermsTest::orderOfTokens);
         sentence("9", "a token node standing for one input token of exactly that type", TermsTest::exactType);
+        sentence("9", "for a rule Xm a tree for that rule", TermsTest::treeForThatRule);
         sentence("9", "with exactly k children in this order", TermsTest::children);
         sentence("15", "The first child starts at p; every later child starts where the one before it ends.",
                 TermsTest::childrenTouch);
@@ -68,6 +72,43 @@ public final class TermsTest {
 
     private static void compiles(int due, String... alts) {
         Check.same("compile() of " + String.join(" ", alts), Check.grammar(alts).compile(), due);
+    }
+
+    private static void oneRule() {
+        for (char rule = 'B'; rule <= 'H'; rule++) {
+            AdaptiveLlStar x = Check.compiled("A=a", rule + "=b", "A=c" + rule, rule + "=d");
+            Check.accepts(x, "a", "A10-1^-1 a0-1^0");
+            Check.accepts(x, "cb", "A20-2^-1 c0-1^0 " + rule + "11-2^0 b1-2^2");
+            Check.accepts(x, "cd", "A20-2^-1 c0-1^0 " + rule + "21-2^0 d1-2^2");
+            Check.rejects(x, "b", 0);
+            Check.rejects(x, "ca", 1);
+        }
+    }
+
+    // Each grammar would be judged otherwise if one of those before it still counted.
+    private static void overCurrentAlternatives() {
+        AdaptiveLlStar x = new AdaptiveLlStar(12, 64);
+        recompiles(x, OK, "A=B", "B=", "C=");
+        recompiles(x, UNDEFINED, "A=B");
+        recompiles(x, UNPRODUCTIVE, "A=B", "B=bB");
+        recompiles(x, OK, "A=BAb", "A=a", "B=b");
+        recompiles(x, LEFT_RECURSIVE, "A=BAb", "A=a", "B=");
+        recompiles(x, OK, "A=BAb", "A=a", "B=b");
+        recompiles(x, OK, "A=a");
+        Check.same("beginAlt(0)", x.beginAlt(0), true);
+        Check.same("addRule(1)", x.addRule(1), true);
+        Check.same("compile() after addRule(1)", x.compile(), UNDEFINED);
+        Check.same("beginAlt(1)", x.beginAlt(1), true);
+        Check.same("addRule(1)", x.addRule(1), true);
+        Check.same("compile() with B=B", x.compile(), UNPRODUCTIVE);
+        Check.same("beginAlt(1)", x.beginAlt(1), true);
+        Check.same("compile() with B=B and B=", x.compile(), LEFT_RECURSIVE);
+    }
+
+    private static void recompiles(AdaptiveLlStar x, int due, String... alts) {
+        x.clearGrammar();
+        Check.add(x, alts);
+        Check.same("compile() of " + String.join(" ", alts) + " after others", x.compile(), due);
     }
 
     private static void anyLength() {
@@ -196,6 +237,36 @@ public final class TermsTest {
         compiles(LEFT_RECURSIVE, "A=BCa", "A=a", "B=b", "B=", "C=BAc", "C=c");
         compiles(LEFT_RECURSIVE, "A=a", "G=FHg", "G=", "F=f", "F=", "H=FG", "H=h");
         compiles(OK, "A=BCa", "A=a", "B=b", "B=", "C=BcA", "C=c");
+    }
+
+    private static void orderOfTokens() {
+        AdaptiveLlStar x = Check.compiled("A=BA", "A=B", "B=a", "B=b", "B=p");
+        for (String tokens : new String[] {"a", "ab", "ba", "abp", "pba", "aabbppabpabp"}) {
+            Check.same("parse() of " + tokens, Check.parse(x, tokens), AdaptiveLlStar.PARSE_ACCEPT);
+            int fed = 0;
+            for (int node = 0; node < x.nodeCount(); node++) {
+                if (x.nodeAlt(node) == 0) {
+                    Check.same("nodeStart(" + node + ") in " + tokens, x.nodeStart(node), fed);
+                    Check.same("nodeSymbol(" + node + ") in " + tokens, x.nodeSymbol(node), tokens.charAt(fed) - 'a');
+                    fed++;
+                }
+            }
+            Check.same("token nodes in " + tokens, fed, tokens.length());
+        }
+    }
+
+    private static void treeForThatRule() {
+        for (char rule = 'B'; rule <= 'H'; rule++) {
+            char other = rule == 'B' ? 'C' : 'B';
+            AdaptiveLlStar x = Check.compiled("A=" + rule + other, other + "=b", rule + "=a", other + "=");
+            Check.accepts(x, "ab", "A10-2^-1 " + rule + "10-1^0 a0-1^1 " + other + "11-2^0 b1-2^3");
+            Check.accepts(x, "a", "A10-1^-1 " + rule + "10-1^0 a0-1^1 " + other + "21-1^0");
+            Check.rejects(x, "ba", 0);
+            Check.rejects(x, "aa", 1);
+        }
+        // The start rule below itself is a tree like any other.
+        AdaptiveLlStar y = Check.compiled("A=aA", "A=B", "B=bAb", "B=");
+        Check.accepts(y, "abab", "A10-4^-1 a0-1^0 A21-4^0 B11-4^2 b1-2^3 A12-3^3 a2-3^5 A23-3^5 B23-3^7 b3-4^3");
     }
 
     private static void exactType() {
